@@ -43,6 +43,7 @@ public final class LadsTieShoes {
     private final Knot tied = new Knot();
     private final Knot work = new Knot();
     private final int[] goodFeet = new int[MOST_LADS];
+    private final int[] mostPass = new int[1 << FEET];
 
     public LadsTieShoes() {
         for (int i = 0; i < SHEETS; i++) {
@@ -326,17 +327,11 @@ public final class LadsTieShoes {
             return refused;
         }
         findGoodFeet();
-        int most = NONE;
-        int bestWay = 0;
-        int ways = countWays();
-        for (int way = 0; way < ways; way++) {
-            int pass = passesOfWay(way);
-            if (pass > most) {
-                most = pass;
-                bestWay = way;
-            }
+        for (int used = mostPass.length - 1; used >= 0; used--) {
+            int foot = firstBestFoot(used);
+            mostPass[used] = foot == NONE ? 0 : passWith(used, foot);
         }
-        return what == 0 ? digitsOfWay(bestWay) : most;
+        return what == 0 ? bestDigits() : mostPass[0];
     }
 
     /** For each LAD the FEET (bits) on which what he ties of the heard KNOT would pass. */
@@ -353,42 +348,38 @@ public final class LadsTieShoes {
         }
     }
 
-    /** A way is a number of as many digits to base 6 as there are LADS, so that ways count up in the order asked. */
-    private int countWays() {
-        int ways = 1;
-        for (int lad = 0; lad < now.lads; lad++) {
-            ways *= FEET;
+    /** LADS take FEET one behind the other, so as many LADS have one as FEET (bits) are used. */
+    private int firstBestFoot(int used) {
+        if (Integer.bitCount(used) >= now.lads) {
+            return NONE;
         }
-        return ways;
-    }
-
-    /** How many pass by a way; NONE if two LADS share a FOOT. */
-    private int passesOfWay(int way) {
-        int rest = way;
-        int used = 0;
-        int pass = 0;
-        for (int lad = now.lads - 1; lad >= 0; lad--) {
-            int bit = 1 << rest % FEET;
-            rest /= FEET;
-            if ((used & bit) != 0) {
-                return NONE;
-            }
-            used |= bit;
-            if ((goodFeet[lad] & bit) != 0) {
-                pass++;
+        int best = NONE;
+        for (int foot = 0; foot < FEET; foot++) {
+            boolean isFree = (used & 1 << foot) == 0;
+            if (isFree && (best == NONE || passWith(used, foot) > passWith(used, best))) {
+                best = foot;
             }
         }
-        return pass;
+        return best;
     }
 
-    private int digitsOfWay(int way) {
-        int rest = way;
+    /** How many pass at most, of the next LAD and those behind him, if he takes that free FOOT. */
+    private int passWith(int used, int foot) {
+        int lad = Integer.bitCount(used);
+        int next = used | 1 << foot;
+        if (lad >= MOST_LADS || next < 0 || next >= mostPass.length) {
+            return 0;
+        }
+        return (goodFeet[lad] >> foot & 1) + mostPass[next];
+    }
+
+    private int bestDigits() {
         int digits = 0;
-        int worth = 1;
-        for (int lad = now.lads - 1; lad >= 0; lad--) {
-            digits += (rest % FEET + 1) * worth;
-            rest /= FEET;
-            worth *= 10;
+        int used = 0;
+        for (int lad = 0; lad < now.lads; lad++) {
+            int foot = firstBestFoot(used);
+            digits = 10 * digits + foot + 1;
+            used |= 1 << foot;
         }
         return digits;
     }
@@ -441,6 +432,7 @@ public final class LadsTieShoes {
         if (row.size > LONGEST_KNOT + 1) {
             return BAD;
         }
+        thought.become(now);
         switch (what) {
             case 0:
                 return firstOtherwise(now, row, lad);
@@ -470,9 +462,8 @@ public final class LadsTieShoes {
         return NONE;
     }
 
-    /** In thought v is what a call of tells() asks for. */
+    /** In thought v is what a call of tells() asks for; all else there is as now. */
     private void suppose(int lad, int what, int v) {
-        thought.become(now);
         switch (what) {
             case 1:
                 thought.kinds[lad] = v;
@@ -1046,7 +1037,7 @@ public final class LadsTieShoes {
                 int token = text.tokens[i];
                 if (token == NUMBER || token == NAME) {
                     if (top < STACK) {
-                        stack[top] = token == NAME ? names[text.values[i]] : text.values[i];
+                        stack[top] = token == NUMBER ? text.values[i] : named(text.values[i]);
                         top++;
                     }
                 } else if (token == NOT || token == NEGATE) {
@@ -1059,6 +1050,10 @@ public final class LadsTieShoes {
                 }
             }
             return stack[0];
+        }
+
+        private int named(int name) {
+            return name >= 0 && name < NAMES ? names[name] : 0;
         }
 
         private static int truth(boolean is) {
@@ -1287,8 +1282,10 @@ public final class LadsTieShoes {
             if (place >= size) {
                 token = END;
             } else if (isIn(tape[place], 'a', 'z')) {
+                place = endOf(start, 'a', 'z', 'a');
                 readWord();
             } else if (isIn(tape[place], '0', '9')) {
+                place = endOf(start, '0', '9', '0');
                 readNumber();
             } else {
                 token = isSign(tape[place]) ? tape[place] : BROKEN;
@@ -1299,7 +1296,7 @@ public final class LadsTieShoes {
         /** Behind all bytes from a place on that are of a range, or one more. */
         private int endOf(int from, int least, int most, int more) {
             for (int i = from; i < size; i++) {
-                if (!isIn(tape[i], least, most) && tape[i] != more) {
+                if ((tape[i] < least || tape[i] > most) && tape[i] != more) {
                     return i;
                 }
             }
@@ -1327,7 +1324,6 @@ public final class LadsTieShoes {
         }
 
         private void readNumber() {
-            place = endOf(start, '0', '9', '0');
             token = place - start > MOST_DIGITS ? BROKEN : NUMBER;
             value = 0;
             for (int i = start; i < place && token == NUMBER; i++) {
@@ -1336,7 +1332,6 @@ public final class LadsTieShoes {
         }
 
         private void readWord() {
-            place = endOf(start, 'a', 'z', 'a');
             token = BROKEN;
             int which = 0;
             int at = start;
