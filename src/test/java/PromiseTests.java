@@ -255,6 +255,10 @@ public final class PromiseTests {
     value("9999*9999*22 - 9999*9999*22 + 8", 8);
     value("skill*skill-skill-1", skill * skill - skill - 1);
     value("skill=10and 10=skill", 1);
+    // As many operands wait as can: of or, and, <, + and * in each of six depths.
+    String wait = "0 or 1 and 0<0+1*", deep = (wait + "(").repeat(5) + wait;
+    value(deep + "skill)))))", 1);
+    value(deep + "wet)))))", 0);
   }
 
   private static void faults() {
