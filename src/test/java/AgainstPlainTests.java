@@ -2,8 +2,9 @@ import java.util.Arrays;
 import java.util.Random;
 
 /** Drawn runs of calls, from seeds that stand here: LadsTieShoes must answer as PlainLads does. */
-public final class AgainstPlainTests {
-  private static final int RUNS = 1500, CALLS = 512;
+public final class AgainstPlainTests extends Checks {
+  /** An object is good for 512 calls; the last of them ask for all that stands. */
+  private static final int RUNS = 1500, CALLS = 512, ASKING = 112;
   private static final int[] ARGUMENTS = {0, 0, 3, 2, 2, 1, 1, 0, 1, 3, 2, 2, 2, 1, 0, 3, 1, 2, 3, 2, 3, 2, 2, 4, 0, 0, 1, 3, 3, 5, 4, 2};
   private static final int[] EDGES = {-1, Integer.MIN_VALUE, Integer.MAX_VALUE, -2, 6, 10, 13, 40, 41, 99, 100, 160, 255, 256, 1000};
   private static final String[] WORDS = {"turns", "skill", "walk", "wet", "number", "day", "or", "and", "not", "(", ")", "+", "-", "*", "<", "=",
@@ -13,50 +14,14 @@ public final class AgainstPlainTests {
   private final LadsTieShoes real = new LadsTieShoes();
   private final PlainLads plain = new PlainLads();
   private final StringBuilder log = new StringBuilder();
-  private int calls = 0;
+  private int calls = 0, most = CALLS - ASKING;
 
   private AgainstPlainTests(long seed) { draw = new Random(seed); }
 
   private int below(int n) { return draw.nextInt(n); }
 
-  static long call(LadsTieShoes x, int promise, int... a) {
-    switch (promise) {
-      case 2: return x.set(a[0], a[1], a[2]);
-      case 3: return x.lad(a[0], a[1]);
-      case 4: return x.told(a[0], a[1]);
-      case 5: return x.read(a[0]);
-      case 6: return x.feed(a[0]);
-      case 7: return x.text();
-      case 8: return x.force(a[0]);
-      case 9: return x.tie(a[0], a[1], a[2]);
-      case 10: return x.knot(a[0], a[1]);
-      case 11: return x.ties(a[0], a[1]);
-      case 12: return x.one(a[0], a[1]);
-      case 13: return x.holds(a[0]);
-      case 14: return x.evening();
-      case 15: return x.run(a[0], a[1], a[2]);
-      case 16: return x.lasts(a[0]);
-      case 17: return x.best(a[0], a[1]);
-      case 18: return x.shortest(a[0], a[1], a[2]);
-      case 19: return x.share(a[0], a[1]);
-      case 20: return x.tells(a[0], a[1], a[2]);
-      case 21: return x.film(a[0], a[1]);
-      case 22: return x.drawn(a[0], a[1]);
-      case 23: return x.chance(a[0], a[1], a[2], a[3]);
-      case 24: return x.image();
-      case 25: return x.back();
-      case 26: return x.count(a[0]);
-      case 27: return x.sheet(a[0], a[1], a[2]);
-      case 28: return x.cell(a[0], a[1], a[2]);
-      case 29: return x.copy(a[0], a[1], a[2], a[3], a[4]);
-      case 30: return x.guild(a[0], a[1], a[2], a[3]);
-      case 31: return x.taken(a[0], a[1]);
-      default: throw new IllegalArgumentException("no promise " + promise);
-    }
-  }
-
   private long both(int promise, int... a) {
-    if (calls >= CALLS) return 0;
+    if (calls >= most) return 0;
     calls++;
     log.append(' ').append(promise).append(Arrays.toString(a));
     long got, want = plain.call(promise, a);
@@ -71,7 +36,7 @@ public final class AgainstPlainTests {
 
   /** Every object's whole face, as far as it can be asked. */
   private void compareAll() {
-    calls = 0;
+    most = CALLS;
     for (int what = 0; what < 10; what++) for (int of = 0; of < 6; of++) both(4, of, what);
     for (int of = 0; of < 6; of++) { both(5, of); both(13, of); both(16, of); both(count(of)[0], count(of)[1]); }
     for (int sheet = 0; sheet < 4; sheet++) { both(10, sheet, 0); both(17, sheet, 0); for (int lad = 0; lad < 5; lad++) both(20, sheet, lad, 0); }
@@ -153,6 +118,15 @@ public final class AgainstPlainTests {
     if (below(2) == 0) for (int what = 1; what < 9; what++) both(20, sheet, below(5), what);
   }
 
+  /** A row of kinds and numbers, taken for one of its sort or another, from an item on that may lie outside. */
+  private void fillGuild() {
+    int sheet = below(4), sort = below(3), n = below(12);
+    both(27, sheet, sort, n);
+    for (int i = 0; i < n; i++) both(28, sheet, i, below(8) - (below(9) == 0 ? 2 : 0));
+    for (int i = 0; i < 3; i++) both(30, sheet, below(8) == 0 ? below(3) : sort, below(13) - 1, below(7));
+    for (int i = 0; i < 3; i++) both(29, sheet, below(n + 2), sheet, below(n + 2), below(n + 2));
+  }
+
   private int argument() {
     if (below(12) == 0) return EDGES[below(EDGES.length)];
     if (below(6) == 0) return below(100);
@@ -169,7 +143,7 @@ public final class AgainstPlainTests {
 
   private void go() {
     for (int i = 0, n = below(6); i < n; i++) both(3, below(6), below(10));
-    while (calls < CALLS) {
+    while (calls < most) {
       switch (below(16)) {
         case 0: feedText(); break;
         case 1: fillSheet(); break;
@@ -181,6 +155,7 @@ public final class AgainstPlainTests {
         case 7: if (below(3) == 0) both(14); else both(15, below(5), below(21), below(3)); break;
         case 8: both(17, below(4), below(2)); break;
         case 9: both(18, below(5), below(below(3) == 0 ? 100 : 40), below(4)); break;
+        case 11: if (below(4) == 0) fillGuild(); else both(below(2) == 0 ? 24 : 25); break;
         case 10: both(16, below(6)); both(13, below(6)); both(12, below(6), below(6)); break;
         default: anyCall(); break;
       }

@@ -1,54 +1,7 @@
 /** Each promise of the document: ordinary inputs, the edges that it names, wrong inputs. What is due was worked out by hand. */
-public final class PromiseTests {
-  private static final int NONE = -1, BAD = -2, STATE = -3, FULL = -4, MIN = Integer.MIN_VALUE, MAX = Integer.MAX_VALUE;
-  private static final long NO = -4611686018427387904L;
-  private static final int LAD = 0, LEFT = 1, HASTY = 2, FENN = 3, CARELESS = 4, MASTER = 5;
-  private static int promise = 0, passed = 0, failed = 0;
-
-  private static void due(String call, long got, long want) {
-    if (got == want) { passed++; return; }
-    failed++;
-    System.out.println("promise " + promise + ": " + call + " answered " + got + ", due is " + want);
-  }
-
-  private static void row(LadsTieShoes x, int sheet, int sort, int... items) {
-    x.sheet(sheet, sort, items.length);
-    for (int i = 0; i < items.length; i++) x.cell(sheet, i, items[i]);
-  }
-
-  private static void feedAll(LadsTieShoes x, String text) {
-    for (char c : text.toCharArray()) x.feed(c);
-  }
-
-  private static int textOf(LadsTieShoes x, String text) {
-    feedAll(x, text);
-    return x.text();
-  }
-
-  /** An object with lads of those kinds, all of one number, under a rule. */
-  private static LadsTieShoes town(String rule, int number, int... kinds) {
-    LadsTieShoes x = new LadsTieShoes();
-    for (int kind : kinds) x.lad(kind, number);
-    if (!rule.isEmpty()) x.force(textOf(x, rule));
-    return x;
-  }
-
-  private static LadsTieShoes town(int... kinds) { return town("", 0, kinds); }
-
-  private static void tieAll(LadsTieShoes x, int lad, int foot, int... crossings) {
-    row(x, 3, 0, crossings);
-    x.tie(3, lad, foot);
-  }
-
-  /** A knot as a number. */
-  private static int number(int... crossings) {
-    int number = 0;
-    for (int c : crossings) number = 5 * number + c + 1;
-    return number;
-  }
-
+public final class PromiseTests extends Checks {
   private static void newObject() {
-    promise = 1;
+    about("promise 1");
     LadsTieShoes x = new LadsTieShoes();
     int[] counts = {0, 0, 0, 1, 0, 0};
     for (int i = 0; i < 6; i++) due("count " + i, x.count(i), counts[i]);
@@ -74,7 +27,7 @@ public final class PromiseTests {
   }
 
   private static void set() {
-    promise = 2;
+    about("promise 2");
     LadsTieShoes x = town(LAD, LEFT);
     int[][] most = {{0, 99, 999, 0}, {1, -7, 1, 0}, {2, 1, 9, 0}, {3, 1, 99, 10}, {4, 5, 99, 10}};
     for (int[] m : most) {
@@ -98,7 +51,7 @@ public final class PromiseTests {
   }
 
   private static void lad() {
-    promise = 3;
+    about("promise 3");
     LadsTieShoes x = new LadsTieShoes();
     due("kind", x.lad(6, 0), BAD);
     due("kind", x.lad(-1, 0), BAD);
@@ -117,7 +70,7 @@ public final class PromiseTests {
   }
 
   private static void told() {
-    promise = 4;
+    about("promise 4");
     LadsTieShoes x = town("", 3, FENN, HASTY);
     x.set(0, 0, 7);
     x.set(1, 0, 1);
@@ -151,7 +104,7 @@ public final class PromiseTests {
   }
 
   private static void read() {
-    promise = 5;
+    about("promise 5");
     LadsTieShoes x = town(LAD, LEFT, HASTY, FENN, CARELESS);
     x.set(3, 1, 77);
     due("read by the first rule", x.read(0), 10);
@@ -174,7 +127,7 @@ public final class PromiseTests {
   }
 
   private static void feed() {
-    promise = 6;
+    about("promise 6");
     LadsTieShoes x = new LadsTieShoes();
     due("256", x.feed(256), BAD);
     due("-1", x.feed(-1), BAD);
@@ -344,7 +297,7 @@ public final class PromiseTests {
   }
 
   private static void text() {
-    promise = 7;
+    about("promise 7");
     values();
     faults();
     opens();
@@ -363,7 +316,7 @@ public final class PromiseTests {
   }
 
   private static void force() {
-    promise = 8;
+    about("promise 8");
     LadsTieShoes x = town(LAD);
     due("none such", x.force(1), BAD);
     due("none such", x.force(-1), BAD);
@@ -402,7 +355,7 @@ public final class PromiseTests {
   }
 
   private static void tie() {
-    promise = 9;
+    about("promise 9");
     LadsTieShoes x = town(LAD, LEFT, HASTY, FENN, CARELESS);
     row(x, 0, 2, 0, 1, 3, 2, 0);
     // As it is 0 1 3 2 0: 1 3 is left out, then 2 and 0 beside 0: 0 stays.
@@ -447,7 +400,7 @@ public final class PromiseTests {
   }
 
   private static void knot() {
-    promise = 10;
+    about("promise 10");
     knotIs(0, 0, 0, 0, 0);
     knotIs(1, 1, 1, 1, 5, 0);
     knotIs(2, 2, 2, 1, 10, 1);
@@ -482,7 +435,7 @@ public final class PromiseTests {
   }
 
   private static void ties() {
-    promise = 11;
+    about("promise 11");
     for (int kind = 0; kind < 6; kind++) tiesIs(kind, 0);
     int[] ofOne = {4, 3, 0, 3, 0, 4};
     for (int kind = 0; kind < 6; kind++) tiesIs(kind, ofOne[kind], 3);
@@ -500,7 +453,7 @@ public final class PromiseTests {
   }
 
   private static void one() {
-    promise = 12;
+    about("promise 12");
     LadsTieShoes x = town(LAD);
     due("of none", x.one(0, 5), 1);
     tieAll(x, 0, 0, 0, 0, 1, 3, 0, 1);
@@ -545,7 +498,7 @@ public final class PromiseTests {
   }
 
   private static void holds() {
-    promise = 13;
+    about("promise 13");
     String rule = "holds 7 + turns;learns 1;reads 1;";
     int[] ofThree = {10, 16, 5, 32, 5, 99}, ofTwo = {9, 9, 4, 18, 4, 99}, ofNone = {7, 7, 3, 14, 3, 0};
     for (int kind = 0; kind < 6; kind++) {
@@ -579,7 +532,7 @@ public final class PromiseTests {
   }
 
   private static void evening() {
-    promise = 14;
+    about("promise 14");
     LadsTieShoes x = town("holds skill;learns skill - walk * 0;reads 1;", 3, LAD, CARELESS);
     x.set(4, 1, 15);
     tieAll(x, 0, 0, 0);
@@ -649,7 +602,7 @@ public final class PromiseTests {
   }
 
   private static void run() {
-    promise = 15;
+    about("promise 15");
     LadsTieShoes x = town("holds 40 - 3 * day;learns 1 + day;reads 1;", 0, LAD, LAD);
     x.set(4, 2, 35);
     tieAll(x, 0, 1, 0);
@@ -675,7 +628,7 @@ public final class PromiseTests {
   }
 
   private static void lasts() {
-    promise = 16;
+    about("promise 16");
     LadsTieShoes x = town("holds 60 - day;learns 0;reads 1;", 0, LAD);
     x.set(4, 0, 60);
     x.set(4, 1, 61);
@@ -699,7 +652,7 @@ public final class PromiseTests {
   }
 
   private static void best() {
-    promise = 17;
+    about("promise 17");
     LadsTieShoes x = new LadsTieShoes();
     row(x, 0, 0, 0, 0, 0);
     due("no lads", x.best(0, 0), 0);
@@ -734,7 +687,7 @@ public final class PromiseTests {
   }
 
   private static void shortest() {
-    promise = 18;
+    about("promise 18");
     String rule = "holds 10 * turns;learns 1;reads 1;";
     LadsTieShoes x = town(rule, 0, LAD, LEFT, HASTY, FENN, CARELESS);
     due("one", x.shortest(0, 10, 0), 1);
@@ -772,7 +725,7 @@ public final class PromiseTests {
   }
 
   private static void share() {
-    promise = 19;
+    about("promise 19");
     LadsTieShoes x = town(LAD, LAD, LAD);
     due("above", x.share(1, 0), 1);
     due("below", x.share(1, 1), 3);
@@ -798,7 +751,7 @@ public final class PromiseTests {
   }
 
   private static void tells() {
-    promise = 20;
+    about("promise 20");
     LadsTieShoes x = town("", 4, LAD, HASTY);
     textOf(x, "holds 4 * turns + 10;learns 1;reads 1;");
     textOf(x, "holds 2 * walk;learns 1;reads 1;");
@@ -849,7 +802,7 @@ public final class PromiseTests {
   }
 
   private static void film() {
-    promise = 21;
+    about("promise 21");
     LadsTieShoes x = town("holds turns + walk;learns 1;reads 1;", 5, LAD, LEFT, MASTER, FENN, HASTY);
     x.set(4, 0, 1);
     due("a lad's", x.film(0, 0), 13 + 78);
@@ -889,7 +842,7 @@ public final class PromiseTests {
   }
 
   private static void drawn() {
-    promise = 22;
+    about("promise 22");
     LadsTieShoes x = new LadsTieShoes();
     int[] seeds = {0, 1, -1, 42, 123456789, MAX, MIN};
     for (int seed : seeds) {
@@ -902,7 +855,7 @@ public final class PromiseTests {
   }
 
   private static void chance() {
-    promise = 23;
+    about("promise 23");
     LadsTieShoes x = new LadsTieShoes();
     for (int seed : new int[] {0, 5, MAX - 3, MIN, -20}) {
       for (int m : new int[] {1, 7, 40}) {
@@ -926,7 +879,7 @@ public final class PromiseTests {
   }
 
   private static void image() {
-    promise = 24;
+    about("promise 24");
     LadsTieShoes x = new LadsTieShoes();
     due("of none", x.image(), 0);
     x.lad(0, 0);
@@ -940,7 +893,7 @@ public final class PromiseTests {
   }
 
   private static void back() {
-    promise = 25;
+    about("promise 25");
     LadsTieShoes x = town("holds 20;learns 1;reads 1;", 3, LAD, LEFT);
     due("there is none", x.back(), STATE);
     x.set(0, 0, 11);
@@ -984,7 +937,7 @@ public final class PromiseTests {
   }
 
   private static void count() {
-    promise = 26;
+    about("promise 26");
     LadsTieShoes x = town("holds 1;learns 1;reads 1;", 0, LAD, LAD, LAD);
     tieAll(x, 0, 0, 1);
     tieAll(x, 2, 4);
@@ -998,7 +951,7 @@ public final class PromiseTests {
   }
 
   private static void sheet() {
-    promise = 27;
+    about("promise 27");
     LadsTieShoes x = new LadsTieShoes();
     for (int sort = 0; sort < 3; sort++) {
       due("of 40", x.sheet(sort, sort, 40), 1);
@@ -1035,7 +988,7 @@ public final class PromiseTests {
   }
 
   private static void cell() {
-    promise = 28;
+    about("promise 28");
     LadsTieShoes x = new LadsTieShoes();
     for (int sheet : new int[] {-1, 4, MAX, MIN}) due("no sheet", x.cell(sheet, 0, 0), BAD);
     due("missing", x.cell(0, 0, 0), -11);
@@ -1057,7 +1010,7 @@ public final class PromiseTests {
   }
 
   private static void copy() {
-    promise = 29;
+    about("promise 29");
     LadsTieShoes x = new LadsTieShoes();
     row(x, 0, 0, 0, 1, 2, 3, 0);
     row(x, 1, 0, 3, 3, 3);
@@ -1087,7 +1040,7 @@ public final class PromiseTests {
   }
 
   private static void guild() {
-    promise = 30;
+    about("promise 30");
     LadsTieShoes x = new LadsTieShoes();
     row(x, 0, 2, 3, 9, 6, 1, 1, 10, 5, 0, 2);
     due("of none", x.guild(0, 2, 0, 0), 0);
@@ -1118,7 +1071,7 @@ public final class PromiseTests {
   }
 
   private static void taken() {
-    promise = 31;
+    about("promise 31");
     int[] under = {1, 1 | 2, 1 | 4, 1 | 2 | 8, 1 | 4 | 16, 1 | 32};
     for (int kind = 0; kind < 6; kind++) {
       LadsTieShoes x = town("", kind + 2, LAD, kind);
@@ -1129,53 +1082,11 @@ public final class PromiseTests {
     }
   }
 
-  /** A refused call changes nothing: whatever is asked afterwards is answered as without it. */
-  private static void refused() {
-    promise = 0;
-    LadsTieShoes x = full(), y = full();
-    int[] odd = {-1, 9, 1000, MIN, MAX};
-    for (int a : odd) {
-      for (int b : new int[] {0, 1, 5, -1, MAX}) {
-        y.set(a, b, 1); y.set(2, a, b); y.set(3, a, b); y.set(4, a, b); y.set(4, 1, a == 9 ? 100 : a); y.lad(a, b); y.lad(b, a == 9 ? 10 : a); y.feed(a == 9 ? 256 : a < 256 ? -1 : a);
-        y.force(a); y.tie(a, b, 0); y.tie(0, a, 1); y.tie(0, 0, a); y.tie(3, 0, 0); y.tie(2, 0, 0); y.film(a, 0); y.film(0, a);
-        y.sheet(a, 0, 2); y.sheet(0, a == -1 ? 7 : a, 2); y.sheet(0, 0, 41); y.sheet(0, 1, -1); y.cell(a, 0, 1); y.cell(0, a, 1); y.cell(3, 0, 1);
-        y.copy(a, 0, 0, 0, 1); y.copy(0, a, 1, 0, 1); y.copy(0, 0, 1, a, 1); y.copy(0, 0, 1, 0, a == 9 ? 10 : a); y.copy(0, 0, 2, 0, 1);
-        y.guild(a, 0, 0, 1); y.guild(0, 1, 0, 2); y.guild(0, 0, a, 1); y.guild(3, 0, 0, 1); y.evening(); y.run(a, 3, 0); y.lasts(a); y.text();
-      }
-    }
-    due("full", y.text(), FULL);
-    due("the last day", y.evening(), STATE);
-    for (int of = 0; of < 6; of++) for (int what = 0; what < 10; what++) due("told", y.told(of, what), x.told(of, what));
-    for (int what = 0; what < 6; what++) due("count", y.count(what), x.count(what));
-    for (int s = 0; s < 4; s++) for (int what = 0; what < 5; what++) due("knot", y.knot(s, what), x.knot(s, what));
-    for (int lad = 0; lad < 5; lad++) due("read", y.read(lad), x.read(lad));
-    for (int foot = 0; foot < 6; foot++) due("holds", y.holds(foot), x.holds(foot));
-    due("back", y.back(), x.back());
-    due("skill", y.told(0, 3), x.told(0, 3));
-  }
-
-  private static LadsTieShoes full() {
-    LadsTieShoes x = town("holds 8 + turns;learns 2;reads skill + 1;", 1, LAD, LEFT, HASTY, FENN);
-    for (int i = 2; i < 6; i++) textOf(x, "holds 1;learns " + i + ";reads 3;");
-    x.feed('h');
-    x.image();
-    x.set(3, 0, 12);
-    x.set(0, 0, 999);
-    tieAll(x, 0, 0, 0, 1, 0);
-    tieAll(x, 3, 4, 1, 1, 3);
-    row(x, 0, 0, 0, 1, 2);
-    row(x, 1, 0, 3, 2);
-    row(x, 2, 1, 1, 2, 4);
-    x.sheet(3, -1, 0);
-    return x;
-  }
-
   public static void main(String[] args) {
     newObject(); set(); lad(); told(); read(); feed(); text(); force();
     tie(); knot(); ties(); one(); holds(); evening(); run(); lasts();
     best(); shortest(); share(); tells(); film(); drawn(); chance(); image(); back(); count();
-    sheet(); cell(); copy(); guild(); taken(); refused();
-    System.out.println(passed + " passed, " + failed + " failed");
-    if (failed != 0) System.exit(1);
+    sheet(); cell(); copy(); guild(); taken();
+    end();
   }
 }
