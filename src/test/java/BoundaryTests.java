@@ -97,6 +97,7 @@ public final class BoundaryTests extends Checks {
     due("empty then", x.count(4), 0);
     due("no text more", x.count(3), 2);
     due("none of its parts stays", textOf(x, "holds 9+skill;learns 77 88"), -124);
+    due("none of its parts stays", textOf(x, "holds 1+2*-3;!"), -113);
     due("a fault comes to no text", textOf(x, "holds 5;learns 6;reads 7;"), 2);
     x.lad(LAD, 0);
     x.force(2);
@@ -254,6 +255,16 @@ public final class BoundaryTests extends Checks {
     due("of 12", x.best(0, 1), 3);
     due("of none", x.best(1, 0), 12345);
     due("of none", x.best(1, 1), 0);
+    // A lad that came since the image would pass, too; he goes.
+    LadsTieShoes y = town("holds 50;learns 1;reads 1;", 0, LAD);
+    y.sheet(0, 0, 0);
+    y.image();
+    y.lad(LAD, 0);
+    due("two", y.best(0, 0), 12);
+    due("two", y.best(0, 1), 2);
+    y.back();
+    due("one", y.best(0, 0), 1);
+    due("one", y.best(0, 1), 1);
     promise(18, "SHORTEST (a number). BAD: lad, w (0 .. 99), no CROSSING; NONE.");
     int[] first = {1, 6, 2, 6, 2};
     for (int lad = 0; lad < 5; lad++) due("w of 0", x.shortest(lad, 0, 0), first[lad]);

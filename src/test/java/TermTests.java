@@ -293,6 +293,12 @@ public final class TermTests extends Checks {
 
   private static String blanks(int n) { return " ".repeat(n); }
 
+  /** A full tape that ends with a token: a fault so many bytes ahead of its end. */
+  private static void endsFull(String token, int ahead) {
+    String start = "holds 1;learns 1;reads ";
+    text(start + blanks(160 - start.length() - token.length()) + token, -260 + ahead);
+  }
+
   private static void tapeTerms() {
     term("A TEXT is read from THE TAPE (160 bytes at most).");
     text(ONES + blanks(135), 1);
@@ -300,6 +306,17 @@ public final class TermTests extends Checks {
     text("holds 1;learns 1;reads " + "1+".repeat(68) + ";", -259);
     text("holds 1;learns 1;reads 1" + "+1".repeat(67) + " ;", 1);
     text("holds 1;learns 1;reads " + "1-".repeat(68) + "1", -260);
+    // What ends with the last byte: a word, no word (with a word's last letter), a part of one, a number.
+    endsFull("turns", 0);
+    endsFull("xs", 2);
+    endsFull("s", 1);
+    endsFull("hol", 3);
+    endsFull("hold", 4);
+    endsFull("turnss", 6);
+    endsFull("9999", 0);
+    endsFull("99999", 5);
+    endsFull("-", 0);
+    endsFull("!", 1);
     LadsTieShoes x = town("holds 1;learns 1;reads 1" + "+1".repeat(67) + ";", 0, LAD);
     due("what it reads", x.read(0), 68);
     x = town("holds turns" + blanks(100) + "<" + blanks(25) + "1;learns 1;reads 1;", 0, LAD);
