@@ -233,6 +233,12 @@ public final class TermTests extends Checks {
       due("a fenn's, odd", holdOf(FENN, 9, "" + fennSaid[i], 1), fennOdd[i]);
       due("a fenn's, even", holdOf(FENN, 9, "" + fennSaid[i], 2), fennEven[i]);
     }
+    // Both sentences bind: what the text tells has its bound ahead of what the kind makes of it.
+    int[] below = {0, 9, 0, 18, 0, 99}, above = {99, 99, 49, 99, 49, 99};
+    for (int kind = 0; kind < 6; kind++) {
+      for (int v : new int[] {-9999, -10, -1}) due("kind " + kind + " of " + v, holdOf(kind, 9, "" + v, 1), below[kind]);
+      for (int v : new int[] {100, 150, 9999}) due("kind " + kind + " of " + v, holdOf(kind, 9, "" + v, 1), above[kind]);
+    }
     term("turns: of how many CROSSINGS the KNOT is, PULLED (of reads 0)");
     for (int turns = 0; turns <= 12; turns++) due("of " + turns, holdOf(LAD, 0, "turns", turns), turns);
     y = town("holds turns * 9 + 1;learns 1;reads turns * 50 + 3;", 0, LAD);
